@@ -23,6 +23,7 @@ public final class KeptOrdersAgainstModel {
     private final StringBuilder told = new StringBuilder();
     private final int run;
     private int wrong;
+    private boolean manyRows;
 
     private KeptOrdersAgainstModel(int run) {
         this.run = run;
@@ -50,7 +51,12 @@ public final class KeptOrdersAgainstModel {
     private int play(int[] answered) {
         // few slots, rows and numbers in some runs, so that edges are met more often
         int most = new int[] {2, 5, 12, 40, 100}[random.nextInt(5)];
-        int start = random.nextInt(4);
+        int start = random.nextInt(5);
+        manyRows = start > 2;
+        if (run % 3 == 0) {
+            most = 4 + random.nextInt(3);
+            openForBoth(most);
+        }
         for (int i = 0; i < CALLS && wrong == 0; i++) {
             int call = i < 4 * start ? opening(i) : pick();
             answered[call]++;
@@ -64,7 +70,25 @@ public final class KeptOrdersAgainstModel {
 
     /** Some runs begin with rows, orders and questions, so that dear calls meet them. */
     private int opening(int i) {
-        return new int[] {3, 6, 15, 6, 15, 15, 6, 28, 6, 15, 27, 28}[i % 12];
+        return i == 0 ? 3 : i % 2 == 0 ? 6 : 15;
+    }
+
+    /** Narrow pages, many rows and orders of one column: here two orders together are often the best way. */
+    private void openForBoth(int most) {
+        compare("wide", real.wide(2), model.wide(2), 2);
+        int x = random.nextInt(Integer.MAX_VALUE);
+        compare("fill", real.fill(x, 64, most), model.fill(x, 64, most), x, 64, most);
+        for (int key = 1; key < 5; key++) {
+            compare("order", real.order(key), model.order(key), key);
+        }
+        for (int i = 0; i < 4; i++) {
+            String text = "a=" + random.nextInt(most) + "&" + (char) ('b' + random.nextInt(3)) + "=" + random.nextInt(most) + ":abcd";
+            long first = packed(text.substring(0, 8)), second = packed(text.substring(8));
+            told.append("letters(").append(first).append("L) letters(").append(second).append("L) ");
+            compare("letters", real.letters(first), model.letters(first));
+            compare("letters", real.letters(second), model.letters(second));
+            compare("ask", real.ask(), model.ask());
+        }
     }
 
     private int pick() {
@@ -121,7 +145,7 @@ public final class KeptOrdersAgainstModel {
             case 1: compare("set", real.set(slot, column, a), model.set(slot, column, a), slot, column, a); break;
             case 2: compare("drop", real.drop(slot), model.drop(slot), slot); break;
             case 3: {
-                int x = value(0, Integer.MAX_VALUE - 1), n = value(1, random.nextInt(4) == 0 ? 64 : 9), m = value(1, most);
+                int x = value(0, Integer.MAX_VALUE - 1), n = manyRows ? 64 : value(1, random.nextInt(4) == 0 ? 64 : 9), m = manyRows ? Math.max(4, most) : value(1, most);
                 compare("fill", real.fill(x, n, m), model.fill(x, n, m), x, n, m);
                 break;
             }

@@ -25,6 +25,7 @@ public final class KeptOrdersPromises {
         blank();
         good();
         ask();
+        askBehindARefusedText();
         bound();
         weight();
         answersAndAnswer();
@@ -43,6 +44,7 @@ public final class KeptOrdersPromises {
         chooseTimes();
         steps();
         stepsOfLikeOnes();
+        allStepsCome();
         worth();
         picture();
         part();
@@ -326,6 +328,8 @@ public final class KeptOrdersPromises {
             due(8, "order(" + key + ")", x.order(key), OUTSIDE);
         }
         due(8, "order(7) again", x.order(7), STATE);
+        due(8, "order(1) again", x.order(1), STATE);
+        due(8, "order(117) again", x.order(117), STATE);
         same(8, x, before);
         due(8, "order(11)", x.order(11), 6);
         x.lose(2);
@@ -608,6 +612,10 @@ public final class KeptOrdersPromises {
             due(17, "blank() behind " + text, x.blank(), text.length());
         }
         due(17, "ask() of the eighth", asked(x, ":d"), 7);
+        for (int c = 0; c < 4; c++) {
+            due(17, "bound(7, " + c + ", 0): nothing is left of refused texts", x.bound(7, c, 0), 0);
+            due(17, "bound(7, " + c + ", 1)", x.bound(7, c, 1), 99);
+        }
         write(x, ":d");
         long before = x.digest();
         due(17, "ask() of the ninth", x.ask(), FULL);
@@ -615,6 +623,22 @@ public final class KeptOrdersPromises {
         write(x, "x");
         due(17, "ask() of a wrong ninth", x.ask(), STATE);
         due(17, "blank()", x.blank(), 3);
+    }
+
+    /** What a refused text told must not show in the looks of the next one. */
+    private static void askBehindARefusedText() {
+        KeptOrders x = twelve();
+        x.order(1);
+        due(17, "ask() of a=5:ab/", asked(x, "a=5:ab/"), STATE);
+        x.blank();
+        due(17, "ask() of :a/a", asked(x, ":a/a"), 0);
+        due(22, "looks(0, 0): a is not fixed", x.looks(0, 0), 3 + 12);
+        due(22, "looks(0, 1): a alone is shown", x.looks(0, 1), 1 + 2);
+        due(23, "run(0, 0): a is not bound", x.run(0, 0), 12);
+        due(17, "ask() of :b/c", asked(x, ":b/c/"), STATE);
+        x.blank();
+        due(17, "ask() of :b", asked(x, ":b"), 1);
+        due(22, "looks(1, 0): it is not sorted", x.looks(1, 0), 3);
     }
 
     private static void bound() {
@@ -853,6 +877,13 @@ public final class KeptOrdersPromises {
         due(24, "best(0, 3)", y.best(0, 3), 101);
         due(24, "best(0, 1) of both", y.best(0, 1), 1);
         due(24, "best(0, 2) of both", y.best(0, 2), 2);
+        y.order(3);
+        y.order(1 * 25 + 3 * 5 + 4);
+        y.lose(0);
+        due(24, "best(0, 255): by 1 and 3", y.best(0, 255), 113);
+        due(24, "best(0, 10)", y.best(0, 10), 113);
+        due(24, "best(0, 9)", y.best(0, 9), 4);
+        due(27, "choose(99, 0): 1 and 3", y.choose(99, 0), 10);
     }
 
     /** 64 rows: a is 1 at each eighth slot from 0, b is 1 at each eighth from 0 to 32 and at others; orders a and b. */
@@ -955,6 +986,14 @@ public final class KeptOrdersPromises {
         y.order(2);
         asked(y, ":a");
         due(27, "choose(50, 0) of sizes 0", y.choose(50, 0), 0);
+        KeptOrders w = twelve();
+        w.order(11);
+        w.order(1);
+        w.order(3);
+        asked(w, "a=1&b=2:a");
+        asked(w, "b>0&c<6:abc/c");
+        due(27, "choose(50, 0): 0 and 2, each for a question", w.choose(50, 0), 5);
+        due(27, "choose(50, 1)", w.choose(50, 1), 2 + 4);
         KeptOrders z = both();
         // both orders together: 2 + 2 leaves at most, and 1 page
         due(27, "choose(99, 0) of both", z.choose(99, 0), 3);
@@ -1029,6 +1068,25 @@ public final class KeptOrdersPromises {
         due(28, "steps(99, 0) of two that help together alone", y.steps(99, 0), 0);
         due(28, "steps(99, 1)", y.steps(99, 1), y.looks(0, 0));
         due(27, "choose(99, 0) finds them", y.choose(99, 0), 3);
+    }
+
+    private static void allStepsCome() {
+        KeptOrders x = new KeptOrders();
+        x.fill(5, 64, 10);
+        int[] keys = {1, 2, 3, 4, 7, 13, 19, 21};
+        String[] texts = {":a", ":b", ":c", ":d", "a=5&b=5:ab", "b=5&c=5:bc", "c=5&d=5:cd", "d=5&a=5:ad"};
+        for (int i = 0; i < 8; i++) {
+            x.order(keys[i]);
+            asked(x, texts[i]);
+        }
+        due(28, "steps(9999, 2): each question has an order of its own", x.steps(9999, 2), 8);
+        due(28, "steps(9999, 0)", x.steps(9999, 0), 255);
+        due(28, "steps(9999, 1)", x.steps(9999, 1), x.work(255));
+        int came = 0;
+        for (int i = 0; i < 8; i++) {
+            came |= 1 << x.steps(9999, 10 + i);
+        }
+        due(28, "steps(9999, 10) to steps(9999, 17)", came, 255);
     }
 
     /** 64 rows: a is 1 at each fourth slot, b at each fourth from 1 and at 0: no page is spared by one of both. */
