@@ -12,7 +12,8 @@ import java.util.TreeSet;
 public final class KeptOrdersAgainstModel {
     static final int NONE = -1, UNKNOWN = -101, OUTSIDE = -102, STATE = -103, FULL = -104;
     private static final int RUNS = 300;
-    private static final int CALLS = 512;
+    /** An object is used for at most 512 calls: the dearest thing made at once is a question, of up to ten. */
+    private static final int CALLS = 500;
     private static final int[] WILD = {
         Integer.MIN_VALUE, -1000, -2, -1, 0, 1, 7, 8, 9, 64, 99, 100, 255, 256, 1000, 9999, 10000, Integer.MAX_VALUE
     };
@@ -22,6 +23,7 @@ public final class KeptOrdersAgainstModel {
     private final Model model = new Model();
     private final StringBuilder told = new StringBuilder();
     private final int run;
+    private int calls;
     private int wrong;
     private boolean manyRows;
 
@@ -57,7 +59,7 @@ public final class KeptOrdersAgainstModel {
             most = 4 + random.nextInt(3);
             openForBoth(most);
         }
-        for (int i = 0; i < CALLS && wrong == 0; i++) {
+        for (int i = 0; calls < CALLS && wrong == 0; i++) {
             int call = i < 4 * start ? opening(i) : pick();
             answered[call]++;
             make(call, most);
@@ -268,6 +270,7 @@ public final class KeptOrdersAgainstModel {
     }
 
     private void compare(String call, long got, long want, int... with) {
+        calls++;
         told.append(call).append(Arrays.toString(with)).append(' ');
         if (got != want && wrong == 0) {
             wrong++;
