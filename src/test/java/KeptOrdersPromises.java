@@ -50,6 +50,7 @@ public final class KeptOrdersPromises {
         part();
         foretold();
         likely();
+        likelyFromAToD();
         guess();
         chosen();
         regret();
@@ -1251,6 +1252,21 @@ public final class KeptOrdersPromises {
         due(33, "likely(1) of no rows", x.likely(1), 0);
         due(33, "likely(4)", x.likely(4), UNKNOWN);
         due(33, "likely(-1)", x.likely(-1), UNKNOWN);
+    }
+
+    private static void likelyFromAToD() {
+        KeptOrders x = new KeptOrders();
+        for (int v = 0; v < 4; v++) {
+            x.row(v, v, v, 0);
+        }
+        x.order(86);
+        asked(x, "a<3&b<3&c<2:d");
+        for (int column = 0; column < 3; column++) {
+            x.picture(column);
+        }
+        // a: 3 of 4, b: 3 by 4 of these is 2, c: 2 by 4 of these is 1; from c to a none would be left
+        due(33, "likely(0) from a to d", x.likely(0), 1);
+        due(34, "guess(0, 1): KEY COLUMNS from a to d, though the KEY begins with c", x.guess(0, 1), 1 + 1 + 1);
     }
 
     private static void guess() {
